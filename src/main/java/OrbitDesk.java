@@ -83,7 +83,7 @@ public final class OrbitDesk {
         history.forget();
         notes.forget();
         fresh = false;
-        return plan.statements;
+        return reader.statements;
     }
 
     public int fault(int what) {
@@ -158,6 +158,7 @@ public final class OrbitDesk {
         if (!plan.hasSite(site)) {
             return NONE;
         }
+        look();
         switch (what) {
             case 0: return plan.siteColumns[site];
             case 1: return plan.siteRows[site];
@@ -200,7 +201,7 @@ public final class OrbitDesk {
     }
 
     public int width(int row) {
-        return row >= 0 && row < plan.rows ? plan.widthOf(row) : NONE;
+        return row >= 0 && row < plan.rows ? plan.widths[row] : NONE;
     }
 
     // ---- passes, gaps
@@ -209,7 +210,8 @@ public final class OrbitDesk {
         if (!plan.hasCell(column, row) || (craft != NONE && !plan.hasCraft(craft))) {
             return NONE;
         }
-        layStrip(column, row);
+        look();
+        strip.lay(fleet.up, column, row);
         return strip.countRuns(passKinds(craft));
     }
 
@@ -217,7 +219,8 @@ public final class OrbitDesk {
         if (!plan.hasCell(column, row) || (craft != NONE && !plan.hasCraft(craft))) {
             return NONE;
         }
-        layStrip(column, row);
+        look();
+        strip.lay(fleet.up, column, row);
         if (!strip.findRun(passKinds(craft), k)) {
             return NONE;
         }
@@ -233,7 +236,8 @@ public final class OrbitDesk {
         if (!plan.hasCell(column, row)) {
             return NONE;
         }
-        layStrip(column, row);
+        look();
+        strip.lay(fleet.up, column, row);
         return strip.countRuns(Strip.GAP);
     }
 
@@ -241,7 +245,8 @@ public final class OrbitDesk {
         if (!plan.hasCell(column, row)) {
             return NONE;
         }
-        layStrip(column, row);
+        look();
+        strip.lay(fleet.up, column, row);
         if (!strip.findRun(Strip.GAP, k)) {
             return NONE;
         }
@@ -256,7 +261,8 @@ public final class OrbitDesk {
         if (!plan.hasCell(column, row)) {
             return NONE;
         }
-        layStrip(column, row);
+        look();
+        strip.lay(fleet.up, column, row);
         return strip.longestGap();
     }
 
@@ -264,7 +270,8 @@ public final class OrbitDesk {
         if (!plan.hasCell(column, row)) {
             return NONE;
         }
-        layStrip(column, row);
+        look();
+        strip.lay(fleet.up, column, row);
         int count = strip.countRuns(Strip.GAP);
         return count > 0 ? doubleBits((double) strip.unseenTicks() / (double) count) : NONE;
     }
@@ -328,7 +335,8 @@ public final class OrbitDesk {
         if (!isTick(tick) || !plan.hasCell(column, row)) {
             return NONE;
         }
-        layStrip(column, row);
+        look();
+        strip.lay(fleet.up, column, row);
         return strip.ticksUntilSeen(inCycle(tick));
     }
 
@@ -338,8 +346,9 @@ public final class OrbitDesk {
         if (!plan.hasCraft(craft) || what < 0 || what > 1) {
             return NONE;
         }
-        startTrial();
+        look();
         trial.tryPhases(craft);
+        fresh = false;
         return what == 0 ? trial.choice : floatBits(trial.score);
     }
 
@@ -347,8 +356,9 @@ public final class OrbitDesk {
         if (!plan.hasPlane(plane) || what < 0 || what > 1) {
             return NONE;
         }
-        startTrial();
+        look();
         trial.trySpreads(plane);
+        fresh = false;
         return what == 0 ? trial.choice : trial.worst;
     }
 
@@ -356,8 +366,9 @@ public final class OrbitDesk {
         if (fleet.up == 0 || what < 0 || what > 2) {
             return NONE;
         }
-        startTrial();
+        look();
         trial.tryLosses();
+        fresh = false;
         switch (what) {
             case 0: return trial.choice;
             case 1: return trial.worst;
@@ -369,8 +380,9 @@ public final class OrbitDesk {
         if (!plan.hasCraft(craft) || fleet.isUp(craft) || what < 0 || what > 1) {
             return NONE;
         }
-        startTrial();
+        look();
         trial.tryReliefs(craft);
+        fresh = false;
         return what == 0 ? trial.choice : trial.worst;
     }
 
@@ -378,8 +390,9 @@ public final class OrbitDesk {
         if (!plan.hasPlane(plane) || what < 0 || what > 1) {
             return NONE;
         }
-        startTrial();
+        look();
         trial.tryNodes(plane);
+        fresh = false;
         return what == 0 ? trial.choice : floatBits(trial.score);
     }
 
@@ -387,8 +400,9 @@ public final class OrbitDesk {
         if (!plan.stands() || gap < 0 || what < 0 || what > 1) {
             return NONE;
         }
-        startTrial();
+        look();
         trial.tryFewest(gap);
+        fresh = false;
         return what == 0 || trial.choice == NONE ? trial.choice : Integer.bitCount(trial.choice);
     }
 
@@ -413,7 +427,8 @@ public final class OrbitDesk {
         if (!plan.hasCell(column, row)) {
             return NONE;
         }
-        layStrip(column, row);
+        look();
+        strip.lay(fleet.up, column, row);
         int deepest = strip.deepestTick();
         switch (what) {
             case 0: return strip.depthAt(deepest);
@@ -427,8 +442,9 @@ public final class OrbitDesk {
         if (Integer.bitCount(fleet.up) < 2 || what < 0 || what > 2) {
             return NONE;
         }
-        startTrial();
+        look();
         trial.tryCouples();
+        fresh = false;
         switch (what) {
             case 0: return trial.choice;
             case 1: return trial.other;
@@ -651,19 +667,9 @@ public final class OrbitDesk {
         }
     }
 
-    private void startTrial() {
-        trial.start();
-        fresh = false;
-    }
-
     private void beginAct() {
         history.keep(fleet);
         fresh = false;
-    }
-
-    private void layStrip(int column, int row) {
-        look();
-        strip.lay(fleet.up, column, row);
     }
 
     private int passKinds(int craft) {
@@ -671,7 +677,7 @@ public final class OrbitDesk {
     }
 
     private int passesInHours(int site, boolean inTicks) {
-        layStrip(plan.siteColumns[site], plan.siteRows[site]);
+        strip.lay(fleet.up, plan.siteColumns[site], plan.siteRows[site]);
         int sum = 0;
         for (int t = 0; t < plan.cycle; t++) {
             int hour = rest(t, plan.day);
@@ -689,7 +695,7 @@ public final class OrbitDesk {
 
     private int firstColumnWith(int worst, int row) {
         for (int column = 0; column < plan.columns; column++) {
-            layStrip(column, row);
+            strip.lay(fleet.up, column, row);
             if (strip.longestGap() == worst) {
                 return column;
             }
@@ -733,7 +739,11 @@ public final class OrbitDesk {
     }
 
     private static int rest(int number, int divisor) {
-        return divisor > 0 ? Math.floorMod(number, divisor) : 0;
+        if (divisor <= 0) {
+            return 0;
+        }
+        int left = number % divisor;
+        return left < 0 ? left + divisor : left;
     }
 
     private static int placeOfBit(int set, int k) {
@@ -858,7 +868,7 @@ public final class OrbitDesk {
         int planes = 0;
         int crafts = 0;
         int sites = 0;
-        int statements = 0;
+        final int[] widths = new int[MOST_ROWS];
         final int[] planeNames = new int[MOST_PLANES];
         final int[] tilts = new int[MOST_PLANES];
         final int[] turns = new int[MOST_PLANES];
@@ -879,7 +889,6 @@ public final class OrbitDesk {
             planes = 0;
             crafts = 0;
             sites = 0;
-            statements = 0;
         }
 
         void take(Plan from) {
@@ -891,7 +900,7 @@ public final class OrbitDesk {
             planes = from.planes;
             crafts = from.crafts;
             sites = from.sites;
-            statements = from.statements;
+            System.arraycopy(from.widths, 0, widths, 0, MOST_ROWS);
             System.arraycopy(from.planeNames, 0, planeNames, 0, MOST_PLANES);
             System.arraycopy(from.tilts, 0, tilts, 0, MOST_PLANES);
             System.arraycopy(from.turns, 0, turns, 0, MOST_PLANES);
@@ -943,10 +952,6 @@ public final class OrbitDesk {
             return NONE;
         }
 
-        int widthOf(int row) {
-            return rows - Math.abs(2 * row - (rows - 1)) / 2;
-        }
-
         int turnOf(int craft) {
             return turns[homes[craft]];
         }
@@ -964,7 +969,8 @@ public final class OrbitDesk {
         void weighCells() {
             all = 0;
             for (int row = 0; row < rows; row++) {
-                all += columns * widthOf(row);
+                widths[row] = rows - Math.abs(2 * row - (rows - 1)) / 2;
+                all += columns * widths[row];
             }
         }
 
@@ -990,6 +996,7 @@ public final class OrbitDesk {
     private static final class Reader {
         int fault = 0;
         int place = NONE;
+        int statements = 0;
         private final Tape text;
         private final Plan plan;
         private final Fleet fleet;
@@ -1009,6 +1016,7 @@ public final class OrbitDesk {
         boolean read() {
             fault = 0;
             place = NONE;
+            statements = 0;
             at = 0;
             touching = false;
             plan.clear();
@@ -1021,7 +1029,14 @@ public final class OrbitDesk {
                 if (at >= text.size()) {
                     break;
                 }
-                if (!readStatement()) {
+                if (!takeLetters()) {
+                    return false;
+                }
+                boolean good = word == Words.of("plane") ? readPlane()
+                    : word == Words.of("craft") ? readCraft()
+                    : word == Words.of("site") ? readSite()
+                    : fail(1, start);
+                if (!good) {
                     return false;
                 }
             }
@@ -1045,25 +1060,12 @@ public final class OrbitDesk {
             return endStatement();
         }
 
-        private boolean readStatement() {
-            if (!takeLetters()) {
-                return false;
-            }
-            if (word == Words.of("plane")) {
-                return plan.planes < MOST_PLANES ? readPlane() : fail(5, start);
-            }
-            if (word == Words.of("craft")) {
-                return plan.crafts < MOST_CRAFT ? readCraft() : fail(5, start);
-            }
-            if (word == Words.of("site")) {
-                return plan.sites < MOST_SITES ? readSite() : fail(5, start);
-            }
-            return fail(1, start);
-        }
-
         private boolean readPlane() {
             int plane = plan.planes;
-            if (!takeNewName()) {
+            if (plane >= MOST_PLANES) {
+                return fail(5, start);
+            }
+            if (!takeName() || !isNew()) {
                 return false;
             }
             plan.planeNames[plane] = word;
@@ -1085,11 +1087,14 @@ public final class OrbitDesk {
 
         private boolean readCraft() {
             int craft = plan.crafts;
-            if (!takeNewName()) {
+            if (craft >= MOST_CRAFT) {
+                return fail(5, start);
+            }
+            if (!takeName() || !isNew()) {
                 return false;
             }
             plan.craftNames[craft] = word;
-            if (!takeWord("in") || !takePlane()) {
+            if (!takeWord("in") || !takeName() || !findPlane()) {
                 return false;
             }
             plan.homes[craft] = number;
@@ -1108,7 +1113,10 @@ public final class OrbitDesk {
 
         private boolean readSite() {
             int site = plan.sites;
-            if (!takeNewName()) {
+            if (site >= MOST_SITES) {
+                return fail(5, start);
+            }
+            if (!takeName() || !isNew()) {
                 return false;
             }
             plan.siteNames[site] = word;
@@ -1139,7 +1147,7 @@ public final class OrbitDesk {
             }
             at++;
             touching = false;
-            plan.statements++;
+            statements++;
             return true;
         }
 
@@ -1147,20 +1155,14 @@ public final class OrbitDesk {
             if (!takeLetters()) {
                 return false;
             }
-            return letters <= Words.MOST_LETTERS && word == Words.of(asked) || fail(1, start);
+            return word == Words.of(asked) || fail(1, start);
         }
 
-        private boolean takeNewName() {
-            if (!takeName()) {
-                return false;
-            }
+        private boolean isNew() {
             return !plan.hasName(word) || fail(3, start);
         }
 
-        private boolean takePlane() {
-            if (!takeName()) {
-                return false;
-            }
+        private boolean findPlane() {
             number = plan.planeNamed(word);
             return number != NONE || fail(3, start);
         }
@@ -1385,7 +1387,7 @@ public final class OrbitDesk {
             full = (1 << plan.columns) - 1;
             arcsMade = 0;
             for (int row = 0; row < plan.rows; row++) {
-                shares[row] = (float) plan.widthOf(row) / (float) plan.all;
+                shares[row] = (float) plan.widths[row] / (float) plan.all;
             }
             for (int craft = 0; craft < MOST_CRAFT; craft++) {
                 drawnNodes[craft] = NONE;
@@ -1407,7 +1409,7 @@ public final class OrbitDesk {
 
         // The columns of a row that are seen from column 0, dy rows away.
         private int arcOf(int reach, int row, int dy) {
-            int width = plan.widthOf(row);
+            int width = plan.widths[row];
             int high = dy * plan.rows;
             int far = reach * plan.rows;
             int arc = 0;
@@ -1421,7 +1423,9 @@ public final class OrbitDesk {
         }
 
         void show(Fleet fleet) {
-            drawAll(fleet);
+            for (int craft = 0; craft < plan.crafts; craft++) {
+                draw(fleet, craft);
+            }
             hold(0);
             join(fleet.up);
         }
@@ -1827,16 +1831,16 @@ public final class OrbitDesk {
             this.live = live;
         }
 
-        void start() {
+        private void start() {
             choice = NONE;
             other = NONE;
             worst = NONE;
             score = 0;
             tried.take(live);
-            sky.drawAll(tried);
         }
 
         void tryPhases(int craft) {
+            start();
             int moved = 1 << craft & live.up;
             sky.hold(live.up & ~moved);
             for (int phase = 0; phase < plan.turnOf(craft); phase++) {
@@ -1848,6 +1852,7 @@ public final class OrbitDesk {
         }
 
         void tryNodes(int plane) {
+            start();
             int moved = plan.craftIn(plane) & live.up;
             sky.hold(live.up & ~moved);
             for (int node = 0; node < plan.columns; node++) {
@@ -1859,6 +1864,7 @@ public final class OrbitDesk {
         }
 
         void trySpreads(int plane) {
+            start();
             int moved = plan.craftIn(plane) & live.up;
             if (moved == 0) {
                 return;
@@ -1873,6 +1879,7 @@ public final class OrbitDesk {
         }
 
         void tryReliefs(int lost) {
+            start();
             int mates = plan.craftIn(plan.homes[lost]) & live.up;
             for (int craft = 0; craft < plan.crafts; craft++) {
                 if ((mates >> craft & 1) != 0) {
@@ -1888,6 +1895,7 @@ public final class OrbitDesk {
         }
 
         void tryLosses() {
+            start();
             sky.hold(0);
             for (int craft = 0; craft < plan.crafts; craft++) {
                 if (live.isUp(craft)) {
@@ -1898,6 +1906,7 @@ public final class OrbitDesk {
         }
 
         void tryCouples() {
+            start();
             sky.hold(0);
             for (int one = 0; one < plan.crafts; one++) {
                 for (int two = one + 1; two < plan.crafts; two++) {
@@ -1915,6 +1924,7 @@ public final class OrbitDesk {
         }
 
         void tryFewest(int gap) {
+            start();
             sky.hold(0);
             if (!sky.gapsFit(live.up, gap)) {
                 return;

@@ -100,7 +100,7 @@ public final class LanguageTests {
         }
         Matcher calls = Pattern.compile("\\b(Integer|Long|Math|System|Arrays)\\.(\\w+)").matcher(bare);
         Set<String> known = Set.of("Integer.bitCount", "Integer.numberOfTrailingZeros", "Math.abs", "Math.min",
-            "Math.max", "Math.floorMod", "System.arraycopy");
+            "Math.max", "System.arraycopy");
         while (calls.find()) {
             check(known.contains(calls.group()), "rule 4: " + calls.group());
         }

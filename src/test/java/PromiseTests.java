@@ -252,6 +252,7 @@ public final class PromiseTests {
         fault(craft + "site", 5, craft.length());
         fault("grid 8 by 5 day 96;plane p node 0 tilt 0 turn 95; ", 6, 50);
         fault("grid 8 by 5 day 96;plane p node 0 tilt 0 turn 95; x", 1, 50);
+        fault("grid 8 by 5 day 80;plane p node 0 tilt 0 turn 48;plane q node 0 tilt 0 turn 07;", 6, 79);
         fault("grid 8 by 5 day 16;plane p node 0 tilt 0 turn 31;plane q node 0 tilt 0 turn 96;", 6, 79);
     }
 
@@ -907,6 +908,15 @@ public final class PromiseTests {
         x.lose(0);
         due("a lost one carries nothing", x.carry(0, 0, 1), NONE);
         due("but from a site to itself", x.carry(0, 1, 1), 0);
+        // a sees u at 2 and v at 6, b sees v at 5 and w at 1, all by a cycle of 8: from 10 on w has it at 25.
+        OrbitDesk y = desk("grid 8 by 5 day 8;plane p node 0 tilt 2 turn 8;plane q node 1 tilt 2 turn 8;"
+            + "craft a in p phase 0 reach 1;craft b in q phase 1 reach 1;site u at 7 4 from 0 to 8;"
+            + "site v at 1 0 from 0 to 8;site w at 3 4 from 0 to 8;");
+        due("carry(3, 0, 1)", y.carry(3, 0, 1), 12);
+        due("in two cycles", y.carry(10, 0, 2), 16);
+        due("in two cycles and a tick", y.carry(9, 0, 2), NONE);
+        due("holders(9, 0, 16)", y.holders(9, 0, 16), 3);
+        due("holders(9, 0, 17)", y.holders(9, 0, 17), 7);
     }
 
     private static void promise39() {
@@ -1028,6 +1038,13 @@ public final class PromiseTests {
             + "craft a in p phase 0 reach 0;craft b in q phase 0 reach 0;");
         due("tells(0)", z.tells(0), 1);
         due("tells(1)", z.tells(1), 2);
+        StringBuilder eight = new StringBuilder("grid 4 by 3 day 4;plane p node 0 tilt 0 turn 2;");
+        for (int i = 0; i < 8; i++) {
+            eight.append("craft ").append("abcdefgh".charAt(i)).append(" in p phase 0 reach 1;");
+        }
+        OrbitDesk all = desk(eight.toString());
+        due("tells(0): no loss shows", all.tells(0), 0);
+        due("tells(1): no loss shows", all.tells(1), 9);
     }
 
     private static void promise44() {
