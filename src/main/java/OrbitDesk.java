@@ -662,7 +662,9 @@ public final class OrbitDesk {
     // Acts and trials leave the sky as it is until an answer needs it: most acts are never looked at.
     private void look() {
         if (!fresh) {
-            sky.show(fleet);
+            sky.drawAll(fleet);
+            sky.hold(0);
+            sky.join(fleet.up);
             fresh = true;
         }
     }
@@ -1238,6 +1240,7 @@ public final class OrbitDesk {
 
     /** What acts change: nodes, who is up (a bit for each craft), phases, reaches. */
     private static final class Fleet {
+        private static final int CHECK = 167;
         int up = 0;
         final int[] nodes = new int[MOST_PLANES];
         final int[] phases = new int[MOST_CRAFT];
@@ -1287,9 +1290,9 @@ public final class OrbitDesk {
                 octets[n + 2] = reaches[craft];
                 n += 3;
             }
-            int check = 167;
+            int check = CHECK;
             for (int k = 0; k < n; k++) {
-                check = (3 * check + octets[k]) % 251;
+                check = checkWith(check, octets[k]);
             }
             octets[n] = check;
             return n + 1;
@@ -1325,11 +1328,15 @@ public final class OrbitDesk {
         }
 
         private static int checkOf(Tape tape, int length) {
-            int check = 167;
+            int check = CHECK;
             for (int k = 0; k < length; k++) {
-                check = (3 * check + tape.byteAt(k)) % 251;
+                check = checkWith(check, tape.byteAt(k));
             }
             return check;
+        }
+
+        private static int checkWith(int check, int octet) {
+            return (3 * check + octet) % 251;
         }
     }
 
@@ -1420,14 +1427,6 @@ public final class OrbitDesk {
                 }
             }
             return arc;
-        }
-
-        void show(Fleet fleet) {
-            for (int craft = 0; craft < plan.crafts; craft++) {
-                draw(fleet, craft);
-            }
-            hold(0);
-            join(fleet.up);
         }
 
         void drawAll(Fleet fleet) {
@@ -1676,11 +1675,11 @@ public final class OrbitDesk {
         private boolean findLastSights(int row) {
             int found = 0;
             for (int t = plan.cycle - 1; t >= 0 && found != full; t--) {
-                int fresh = shown[row * MOST_CYCLE + t] & ~found;
-                found |= fresh;
-                for (int n = Integer.bitCount(fresh); n > 0; n--) {
-                    since[Integer.numberOfTrailingZeros(fresh)] = t + 1 - plan.cycle;
-                    fresh &= fresh - 1;
+                int newly = shown[row * MOST_CYCLE + t] & ~found;
+                found |= newly;
+                for (int n = Integer.bitCount(newly); n > 0; n--) {
+                    since[Integer.numberOfTrailingZeros(newly)] = t + 1 - plan.cycle;
+                    newly &= newly - 1;
                 }
             }
             return found == full;
