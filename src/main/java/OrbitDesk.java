@@ -1880,11 +1880,11 @@ public final class OrbitDesk {
         void tryReliefs(int lost) {
             start();
             int mates = plan.craftIn(plan.homes[lost]) & live.up;
+            sky.hold(0);
             for (int craft = 0; craft < plan.crafts; craft++) {
                 if ((mates >> craft & 1) != 0) {
                     tried.phases[craft] = live.phases[lost];
                     sky.draw(tried, craft);
-                    sky.hold(0);
                     sky.join(live.up);
                     takeLesserGap(craft);
                     tried.phases[craft] = live.phases[craft];

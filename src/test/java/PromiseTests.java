@@ -820,6 +820,13 @@ public final class PromiseTests {
         due("fewest(4, 2)", x.fewest(4, 2), NONE);
         due("fewest(4, -1)", x.fewest(4, -1), NONE);
         due("without a desk", new OrbitDesk().fewest(4, 0), NONE);
+        // a and b are the lesser bits, c alone (it sees all cells from anywhere) is the fewer craft.
+        OrbitDesk y = desk(RING + "craft c in p phase 0 reach 2;");
+        due("fewest(1, 0) by c", y.fewest(1, 0), 4);
+        due("fewest(1, 1) by c", y.fewest(1, 1), 1);
+        due("fewest(0, 0) by c", y.fewest(0, 0), 4);
+        y.lose(2);
+        due("fewest(1, 0) without c", y.fewest(1, 0), 3);
         due("without craft", desk("grid 4 by 3 day 2;").fewest(2, 0), 0);
         due("without craft", desk("grid 4 by 3 day 2;").fewest(1, 0), NONE);
     }
