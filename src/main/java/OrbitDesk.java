@@ -1394,7 +1394,7 @@ public final class OrbitDesk {
             full = (1 << plan.columns) - 1;
             arcsMade = 0;
             for (int row = 0; row < plan.rows; row++) {
-                shares[row] = (float) plan.widths[row] / (float) plan.all;
+                shares[row] = plan.all > 0 ? (float) plan.widths[row] / (float) plan.all : 0;
             }
             for (int craft = 0; craft < MOST_CRAFT; craft++) {
                 drawnNodes[craft] = NONE;
@@ -1583,6 +1583,9 @@ public final class OrbitDesk {
         }
 
         float meanCover() {
+            if (plan.cycle <= 0) {
+                return 0;
+            }
             float ticks = (float) plan.cycle;
             float sum = 0;
             for (int t = 0; t < plan.cycle; t++) {
