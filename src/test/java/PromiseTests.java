@@ -1,105 +1,5 @@
-import java.nio.charset.StandardCharsets;
-
 /** Answers worked out by hand from the document, promise by promise: ordinary inputs, edges, wrong inputs. */
-public final class PromiseTests {
-    private static final int NONE = -1;
-    private static int wrong = 0;
-    private static int checks = 0;
-    private static int promise = 0;
-
-    /*
-     * RING: tilt 0, two craft on opposite sides. At ticks 0 .. 3 craft a is above columns 0, 1, 2, 3 of row 1, craft
-     * b above 2, 3, 0, 1. WIDTHS are 2, 3, 2; with reach 1 a craft sees three cells of row 1 and the one above and
-     * below it.
-     */
-    private static final String ALONE = "grid 4 by 3 day 4;plane p node 0 tilt 0 turn 2;craft a in p phase 0 reach 1;";
-    private static final String RING = ALONE + "craft b in p phase 1 reach 1;";
-    /*
-     * BOW: turn and day are alike, so a stays in column 0 and b in column 4, rows 2 3 4 3 2 1 0 1 and 2 1 0 1 2 3 4 3.
-     * WIDTHS are 3, 4, 5, 4, 3.
-     */
-    private static final String BOW = "grid 8 by 5 day 8;plane p node 0 tilt 2 turn 8;craft a in p phase 0 reach 1;"
-        + "craft b in p phase 4 reach 0;site s at 2 4 from 0 to 8;";
-    private static final String SITES = "grid 8 by 5 day 8;plane p node 0 tilt 2 turn 8;craft a in p phase 0 reach 1;"
-        + "site x at 0 2 from 0 to 8;site y at 0 0 from 4 to 6;site z at 4 4 from 0 to 8;";
-
-    private static void due(String what, long got, long want) {
-        checks++;
-        if (got != want) {
-            wrong++;
-            System.out.println("promise " + promise + ": " + what + " answered " + got + ", due is " + want);
-        }
-    }
-
-    private static void due(String what, boolean got, boolean want) {
-        due(what, got ? 1 : 0, want ? 1 : 0);
-    }
-
-    private static void feed(OrbitDesk x, String text) {
-        feed(x, text.getBytes(StandardCharsets.ISO_8859_1));
-    }
-
-    private static void feed(OrbitDesk x, byte[] bytes) {
-        int before = 0;
-        for (int i = 0; i < bytes.length; i += 20) {
-            int[] five = new int[5];
-            for (int k = 0; k < 20; k++) {
-                five[k / 4] = five[k / 4] << 8 | (i + k < bytes.length ? bytes[i + k] & 255 : 0);
-            }
-            before = x.feed(five[0], five[1], five[2], five[3], five[4]) - 20 - i;
-        }
-        x.end(before + bytes.length);
-    }
-
-    private static void feed(OrbitDesk x, int... bytes) {
-        byte[] out = new byte[bytes.length];
-        for (int i = 0; i < bytes.length; i++) {
-            out[i] = (byte) bytes[i];
-        }
-        feed(x, out);
-    }
-
-    private static OrbitDesk desk(String text) {
-        OrbitDesk x = new OrbitDesk();
-        feed(x, text);
-        if (x.desk() == NONE) {
-            wrong++;
-            System.out.println("promise " + promise + ": no desk: " + text + " fault " + x.fault(0) + " at "
-                + x.fault(1));
-        }
-        return x;
-    }
-
-    private static void fault(String text, int kind, int place) {
-        OrbitDesk x = new OrbitDesk();
-        feed(x, text);
-        due("desk() by '" + text + "'", x.desk(), NONE);
-        due("fault(0) by '" + text + "'", x.fault(0), kind);
-        due("fault(1) by '" + text + "'", x.fault(1), place);
-        due("status(1) by '" + text + "'", x.status(1), 1);
-    }
-
-    private static void good(String text, int statements) {
-        OrbitDesk x = new OrbitDesk();
-        feed(x, text);
-        due("desk() by '" + text + "'", x.desk(), statements);
-        due("fault(0) by '" + text + "'", x.fault(0), 0);
-        due("fault(1) by '" + text + "'", x.fault(1), NONE);
-        due("status(1) by '" + text + "'", x.status(1), 0);
-    }
-
-    private static int sum(float... shares) {
-        return Float.floatToIntBits(total(shares));
-    }
-
-    private static float total(float... shares) {
-        float all = 0f;
-        for (float share : shares) {
-            all += share;
-        }
-        return all;
-    }
-
+public final class PromiseTests extends Checks {
     private static void promise1() {
         OrbitDesk x = new OrbitDesk();
         for (int what = 0; what <= 10; what++) {
@@ -1297,16 +1197,6 @@ public final class PromiseTests {
         due("a grid alone", z.on(), true);
     }
 
-    private static int[] imageBytes(int... ahead) {
-        int[] out = java.util.Arrays.copyOf(ahead, ahead.length + 1);
-        int c = 167;
-        for (int b : ahead) {
-            c = (3 * c + b) % 251;
-        }
-        out[ahead.length] = c;
-        return out;
-    }
-
     private static void promise56() {
         OrbitDesk x = new OrbitDesk();
         x.end(1);
@@ -1342,7 +1232,8 @@ public final class PromiseTests {
     }
 
     public static void main(String[] args) throws Exception {
-        for (promise = 1; promise <= 56; promise++) {
+        for (int promise = 1; promise <= 56; promise++) {
+            test = "promise " + promise;
             PromiseTests.class.getDeclaredMethod("promise" + promise).invoke(null);
         }
         System.out.println("PromiseTests: " + checks + " checks, " + wrong + " wrong");

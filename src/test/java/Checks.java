@@ -1,0 +1,158 @@
+import java.nio.charset.StandardCharsets;
+import java.util.Arrays;
+import java.util.function.Predicate;
+import java.util.function.Supplier;
+
+/** What the tests share: answers held against those that are due, bytes fed, desks made, refusals looked at. */
+class Checks {
+    static final int NONE = -1;
+    static final int MIN = Integer.MIN_VALUE;
+    static final int MAX = Integer.MAX_VALUE;
+    static int wrong = 0;
+    static int checks = 0;
+    static String test = "";
+
+    /*
+     * RING: tilt 0, two craft on opposite sides. At ticks 0 .. 3 craft a is above columns 0, 1, 2, 3 of row 1, craft
+     * b above 2, 3, 0, 1. WIDTHS are 2, 3, 2; with reach 1 a craft sees three cells of row 1 and the one above and
+     * below it.
+     */
+    static final String ALONE = "grid 4 by 3 day 4;plane p node 0 tilt 0 turn 2;craft a in p phase 0 reach 1;";
+    static final String RING = ALONE + "craft b in p phase 1 reach 1;";
+    /*
+     * BOW: turn and day are alike, so a stays in column 0 and b in column 4, rows 2 3 4 3 2 1 0 1 and 2 1 0 1 2 3 4 3.
+     * WIDTHS are 3, 4, 5, 4, 3.
+     */
+    static final String BOW = "grid 8 by 5 day 8;plane p node 0 tilt 2 turn 8;craft a in p phase 0 reach 1;"
+        + "craft b in p phase 4 reach 0;site s at 2 4 from 0 to 8;";
+    static final String SITES = "grid 8 by 5 day 8;plane p node 0 tilt 2 turn 8;craft a in p phase 0 reach 1;"
+        + "site x at 0 2 from 0 to 8;site y at 0 0 from 4 to 6;site z at 4 4 from 0 to 8;";
+
+    static void due(String what, long got, long want) {
+        checks++;
+        if (got != want) {
+            wrong++;
+            System.out.println(test + ": " + what + " answered " + got + ", due is " + want);
+        }
+    }
+
+    static void due(String what, boolean got, boolean want) {
+        due(what, got ? 1 : 0, want ? 1 : 0);
+    }
+
+    static void feed(OrbitDesk x, String text) {
+        feed(x, text.getBytes(StandardCharsets.ISO_8859_1));
+    }
+
+    static void feed(OrbitDesk x, byte[] bytes) {
+        int before = 0;
+        for (int i = 0; i < bytes.length; i += 20) {
+            int[] five = new int[5];
+            for (int k = 0; k < 20; k++) {
+                five[k / 4] = five[k / 4] << 8 | (i + k < bytes.length ? bytes[i + k] & 255 : 0);
+            }
+            before = x.feed(five[0], five[1], five[2], five[3], five[4]) - 20 - i;
+        }
+        x.end(before + bytes.length);
+    }
+
+    static void feed(OrbitDesk x, int... bytes) {
+        byte[] out = new byte[bytes.length];
+        for (int i = 0; i < bytes.length; i++) {
+            out[i] = (byte) bytes[i];
+        }
+        feed(x, out);
+    }
+
+    static OrbitDesk desk(String text) {
+        OrbitDesk x = new OrbitDesk();
+        feed(x, text);
+        if (x.desk() == NONE) {
+            wrong++;
+            System.out.println(test + ": no desk: " + text + " fault " + x.fault(0) + " at " + x.fault(1));
+        }
+        return x;
+    }
+
+    static void fault(String text, int kind, int place) {
+        OrbitDesk x = new OrbitDesk();
+        feed(x, text);
+        due("desk() by '" + text + "'", x.desk(), NONE);
+        due("fault(0) by '" + text + "'", x.fault(0), kind);
+        due("fault(1) by '" + text + "'", x.fault(1), place);
+        due("status(1) by '" + text + "'", x.status(1), 1);
+    }
+
+    /** The fault stands behind the ^, which is no part of the text. */
+    static void faultBehind(int kind, String marked) {
+        int place = marked.indexOf('^');
+        fault(marked.substring(0, place) + marked.substring(place + 1), kind, place);
+    }
+
+    static void good(String text, int statements) {
+        OrbitDesk x = new OrbitDesk();
+        feed(x, text);
+        due("desk() by '" + text + "'", x.desk(), statements);
+        due("fault(0) by '" + text + "'", x.fault(0), 0);
+        due("fault(1) by '" + text + "'", x.fault(1), NONE);
+        due("status(1) by '" + text + "'", x.status(1), 0);
+    }
+
+    static int sum(float... shares) {
+        return Float.floatToIntBits(total(shares));
+    }
+
+    static float total(float... shares) {
+        float all = 0f;
+        for (float share : shares) {
+            all += share;
+        }
+        return all;
+    }
+
+    static int[] imageBytes(int... ahead) {
+        int[] out = Arrays.copyOf(ahead, ahead.length + 1);
+        int c = 167;
+        for (int b : ahead) {
+            c = (3 * c + b) % 251;
+        }
+        out[ahead.length] = c;
+        return out;
+    }
+
+    /** Numbers that are none of 0 .. count less 1. */
+    static int[] outside(int count) {
+        return new int[] {-1, count, MIN, MAX, count + 1, count + 256, -count - 2};
+    }
+
+    /** All that acts, desks, notes can change, as a text; the tape and the refusals are not in it. */
+    static String state(OrbitDesk x) {
+        StringBuilder out = new StringBuilder();
+        for (int what = 0; what <= 11; what++) {
+            out.append(x.has(what)).append(' ');
+        }
+        for (int plane = 0; plane < x.has(3); plane++) {
+            out.append(x.plane(plane, 0)).append(' ');
+        }
+        for (int craft = 0; craft < x.has(4); craft++) {
+            out.append(x.craft(craft, 1)).append(' ').append(x.craft(craft, 2)).append(' ').append(x.craft(craft, 3))
+                .append(' ');
+        }
+        return out.append(x.suspect(NONE)).append(' ').append(x.score()).toString();
+    }
+
+    /** A call that is refused: false (or NONE, told as false), one refusal more of its kind alone, all else stays. */
+    static void refuses(String what, int kind, Supplier<OrbitDesk> maker, Predicate<OrbitDesk> call) {
+        OrbitDesk x = maker.get();
+        int[] before = new int[6];
+        for (int i = 0; i < 6; i++) {
+            before[i] = x.status(i);
+        }
+        String stood = state(x);
+        due(what, call.test(x), false);
+        for (int i = 0; i < 6; i++) {
+            due("status(" + i + ") behind " + what, x.status(i), before[i] + (i == kind ? 1 : 0));
+        }
+        due("all stays by " + what + ": " + stood, state(x).equals(stood), true);
+    }
+}
