@@ -373,6 +373,7 @@ final class ActEdges extends Checks {
     static void promise55_asItTells() {
         int[] bytes = {3, 0, 1, 12, 1, 0, 0};
         OrbitDesk x = withTape(RING, imageBytes(bytes));
+        due("what is seen", x.covered(0), 8);
         due("on()", x.on(), true);
         due("the tape is gone", x.end(1), false);
         x.image();

@@ -1,5 +1,7 @@
 import java.nio.charset.StandardCharsets;
+import java.util.ArrayList;
 import java.util.Arrays;
+import java.util.List;
 import java.util.function.Predicate;
 import java.util.function.Supplier;
 
@@ -139,6 +141,37 @@ class Checks {
                 .append(' ');
         }
         return out.append(x.suspect(NONE)).append(' ').append(x.score()).toString();
+    }
+
+    /** What is seen, passed and missed, as a text. */
+    static String sights(OrbitDesk x) {
+        List<Long> out = new ArrayList<>();
+        for (int t = 0; t < 5; t++) {
+            long[] at = {x.cover(t), x.covered(t), x.soon(t), x.spot(0, t, 0), x.spot(0, t, 1), x.seen(t, 1, 1)};
+            Arrays.stream(at).forEach(out::add);
+        }
+        for (int i = 0; i < 4; i++) {
+            long[] of = {x.passes(i, i, NONE), x.gaps(i, i), x.mean(i, i), x.next(1, i, i), x.depth(i, i, 1),
+                x.worst(i), x.site(i, 4), x.carry(1, 0, i), x.holders(1, i, 9)};
+            Arrays.stream(of).forEach(out::add);
+        }
+        long[] last = {x.never(), x.score(), x.source(0, 9, 0)};
+        Arrays.stream(last).forEach(out::add);
+        return out.toString();
+    }
+
+    /** What is tried, call by call; each one is told by a number of 0 .. 13. */
+    static int tried(OrbitDesk x, int which) {
+        int what = which % 2;
+        switch (which / 2) {
+            case 0: return x.best(0, what);
+            case 1: return x.even(0, what);
+            case 2: return x.critical(1 + what);
+            case 3: return x.relief(2, what);
+            case 4: return x.bestNode(0, what);
+            case 5: return x.fewest(2, what);
+            default: return x.couple(1 + what);
+        }
     }
 
     /** A call that is refused: false (or NONE, told as false), one refusal more of its kind alone, all else stays. */

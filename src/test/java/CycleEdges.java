@@ -302,6 +302,8 @@ final class CycleEdges extends Checks {
         x.lose(0);
         x.lose(1);
         due("all lost", x.never(), 12);
+        // With reach 0 each column of row 1 is seen at one tick, column 0 at tick 0, column 3 at tick 3.
+        due("seen once", desk(ALONE.replace("reach 1", "reach 0")).never(), 8);
     }
 
     @Says("NONE without a desk.")
@@ -317,7 +319,9 @@ final class CycleEdges extends Checks {
             due("soon(" + t + ")", x.soon(t), ticks[t % 8]);
         }
         due("soon(9999), as from 7 on", x.soon(9999), 2);
-        due("all the cycle", desk(ALONE).soon(2), 4);
+        for (int t = 0; t < 4; t++) {
+            due("all the cycle, the column ahead being the last", desk(ALONE).soon(t), 4);
+        }
     }
 
     @Says("NONE when some never are,")

@@ -242,8 +242,8 @@ final class TermOneTests extends Checks {
     @Says("NAMES: 1 to 6 letters,")
     static void termI_namesHaveOneToSixLetters() {
         good(GRID + "plane z node 0 tilt 2 turn 8;craft a in z phase 0 reach 1;", 3);
-        good(GRID + "plane abcxyz node 0 tilt 2 turn 8;craft abcxyy in abcxyz phase 0 reach 1;site abcxyw at 0 0 from 0 "
-            + "to 8;", 4);
+        good(GRID + "plane abcxyz node 0 tilt 2 turn 8;craft abcxyy in abcxyz phase 0 reach 1;site abcxyw at 0 0 "
+            + "from 0 to 8;", 4);
         faultBehind(1, GRID + "plane abcxyz^a node 0 tilt 2 turn 8;");
         faultBehind(1, GRID + "plane ^;");
         faultBehind(1, GRID + "plane ^A node 0 tilt 2 turn 8;");
@@ -464,6 +464,8 @@ final class TermOneTests extends Checks {
         faultBehind(6, "grid 8 by 5 day 12;plane p node 0 tilt 2 turn 21;plane q node 0 tilt 0 turn 9;^");
         faultBehind(6, "grid 8 by 5 day 95;plane p node 0 tilt 2 turn 96;plane q node 0 tilt 0 turn 91;^");
         faultBehind(6, "grid 8 by 5 day 4;plane p node 0 tilt 2 turn 61;^");
+        faultBehind(6, day80 + "48;plane q node 0 tilt 0 turn 7;^");
+        good(day80 + "48;plane q node 0 tilt 0 turn 60;", 3);
         faultBehind(6, day80 + "49; \n^");
         faultBehind(1, day80 + "49;^x");
         faultBehind(1, day80 + "49^");

@@ -100,37 +100,79 @@ final class TermThreeTests extends Checks {
         due("some cell has none", x.greatest(0, 2), 0);
         x.reach(0, 12);
         due("without any", x.worst(0), 0);
-        due("none is up", alone().worst(0), 4);
-        due("over the end", desk(ALONE).worst(0), 3);
+        OrbitDesk y = desk(ALONE);
+        y.lose(0);
+        due("none is up", y.worst(0), 4);
     }
 
-    private static OrbitDesk alone() {
-        OrbitDesk x = desk(ALONE);
-        x.lose(0);
-        return x;
+    private static void worstIs(String text, int worst) {
+        OrbitDesk x = desk(text);
+        int greatest = 0;
+        for (int column = 0; column < x.has(0); column++) {
+            for (int row = 0; row < x.has(1); row++) {
+                greatest = Math.max(greatest, x.greatest(column, row));
+            }
+        }
+        due("the greatest of all", greatest, worst);
+        due("worst(0)", x.worst(0), worst);
+        due("fewest(" + worst + ", 0)", x.fewest(worst, 0), 1);
+        due("fewest(" + (worst - 1) + ", 0)", x.fewest(worst - 1, 0), NONE);
+    }
+
+    @Says("The WORST gap is the greatest GAP of all cells")
+    static void termIII_worstWhereverItIs() {
+        // In row 0 alone.
+        worstIs("grid 5 by 4 day 4;plane p node 4 tilt 2 turn 8;craft a in p phase 0 reach 3;", 3);
+        // Over the end of the cycle alone: two cells, five cells, two of row 0.
+        worstIs("grid 4 by 3 day 3;plane p node 3 tilt 1 turn 6;craft a in p phase 3 reach 1;", 5);
+        worstIs("grid 5 by 4 day 2;plane p node 0 tilt 2 turn 6;craft a in p phase 2 reach 2;", 4);
+        worstIs("grid 4 by 4 day 4;plane p node 0 tilt 1 turn 8;craft a in p phase 3 reach 3;", 2);
+        worstIs(ALONE, 3);
     }
 
     @Says("TRIED is what would be; nothing of it stays.")
     static void termIII_nothingOfWhatIsTriedStays() {
-        OrbitDesk x = desk(RING + "craft c in p phase 1 reach 2;");
-        x.lose(2);
-        String stood = state(x);
-        int[] before = {x.cover(1), x.worst(0), x.passes(0, 0, NONE), x.covered(2), x.spot(0, 1, 0)};
-        x.best(0, 0);
-        x.even(0, 0);
-        x.critical(0);
-        x.relief(2, 0);
-        x.bestNode(0, 0);
-        x.fewest(1, 0);
-        x.couple(0);
-        int[] behind = {x.cover(1), x.worst(0), x.passes(0, 0, NONE), x.covered(2), x.spot(0, 1, 0)};
-        for (int i = 0; i < before.length; i++) {
-            due("answer " + i, behind[i], before[i]);
+        for (int which = 0; which < 14; which++) {
+            OrbitDesk x = many();
+            String stood = state(x);
+            String seen = sights(x);
+            tried(x, which);
+            due("all is as it was behind " + which, state(x).equals(stood), true);
+            tried(x, which);
+            due("all is seen as it was behind " + which, sights(x).equals(seen), true);
+            due("one act", x.has(10), 1);
+            for (int what = 0; what < 6; what++) {
+                due("status(" + what + ")", x.status(what), 0);
+            }
         }
-        due("all is as it was", state(x).equals(stood), true);
-        due("one act", x.has(10), 1);
-        for (int what = 0; what < 6; what++) {
-            due("status(" + what + ")", x.status(what), 0);
+    }
+
+    /** Two planes; c, in p as a and b are, is lost. */
+    private static OrbitDesk many() {
+        OrbitDesk x = desk("grid 6 by 5 day 6;plane p node 4 tilt 2 turn 6;plane q node 1 tilt 1 turn 3;"
+            + "craft a in p phase 5 reach 1;craft b in p phase 2 reach 2;craft c in p phase 4 reach 3;"
+            + "craft d in q phase 1 reach 2;site s at 0 2 from 0 to 6;site t at 3 3 from 0 to 6;");
+        x.lose(2);
+        return x;
+    }
+
+    @Says("nothing of it stays.")
+    static void termIII_nothingOfOneTrialIsInTheNext() {
+        for (int one = 0; one < 14; one++) {
+            for (int next = 0; next < 14; next++) {
+                OrbitDesk x = many();
+                OrbitDesk y = many();
+                tried(x, one);
+                due("trial " + next + " behind " + one, tried(x, next), tried(y, next));
+            }
+        }
+        for (int one = 0; one < 14; one++) {
+            OrbitDesk x = many();
+            OrbitDesk y = many();
+            tried(x, one);
+            x.lose(1);
+            y.lose(1);
+            due("what is seen, b being lost behind " + one, sights(x).equals(sights(y)), true);
         }
     }
 
@@ -212,6 +254,9 @@ final class TermThreeTests extends Checks {
             + "craft b in p phase 1 reach 1;", 1);
         // All phases are alike.
         even(ALONE.replace("phase 0", "phase 1"), 0);
+        // Asked first of all, it goes by the craft of the other planes, too.
+        due("the gap", desk("grid 8 by 3 day 6;plane p node 3 tilt 0 turn 3;plane q node 0 tilt 1 turn 3;"
+            + "craft a in p phase 1 reach 3;craft b in q phase 2 reach 1;").even(0, 1), 1);
     }
 
     /** The choice of critical() by what lose() brings, craft by craft. */
@@ -241,6 +286,8 @@ final class TermThreeTests extends Checks {
         // WORST gaps 3 7, SCORES .50 .62.
         critical("grid 6 by 5 day 8;plane p node 5 tilt 1 turn 2;plane q node 4 tilt 2 turn 4;"
             + "craft a in p phase 0 reach 2;craft b in q phase 1 reach 2;", 1);
+        critical("grid 6 by 5 day 8;plane p node 5 tilt 1 turn 2;plane q node 4 tilt 2 turn 4;"
+            + "craft b in q phase 1 reach 2;craft a in p phase 0 reach 2;", 0);
         OrbitDesk x = desk(RING);
         x.lose(0);
         due("of those that are up", x.critical(0), 1);
@@ -289,8 +336,8 @@ final class TermThreeTests extends Checks {
         "with the phase of the lost one, the WORST gap is least,"})
     static void termIII_reliefByTheLeastGap() {
         // WORST gaps of a and c 6 4, SCORES .81 .80.
-        relief("grid 5 by 5 day 2;plane p node 0 tilt 0 turn 6;craft a in p phase 5 reach 2;craft b in p phase 0 reach 1;"
-            + "craft c in p phase 2 reach 2;", 1, 2);
+        relief("grid 5 by 5 day 2;plane p node 0 tilt 0 turn 6;craft a in p phase 5 reach 2;"
+            + "craft b in p phase 0 reach 1;craft c in p phase 2 reach 2;", 1, 2);
         OrbitDesk x = desk("grid 8 by 3 day 8;plane p node 0 tilt 0 turn 8;plane q node 0 tilt 0 turn 8;"
             + "craft a in q phase 0 reach 3;craft b in p phase 2 reach 1;craft c in p phase 4 reach 1;");
         x.lose(2);
@@ -303,11 +350,11 @@ final class TermThreeTests extends Checks {
     @Says("of like ones by which SCORE is greatest, then the first.")
     static void termIII_reliefOfLikeOnesByScoreThenTheFirst() {
         // WORST gaps of a and b 6 6, SCORES .05 .1.
-        relief("grid 5 by 4 day 2;plane p node 2 tilt 2 turn 6;craft a in p phase 5 reach 0;craft b in p phase 2 reach 0;"
-            + "craft c in p phase 2 reach 3;", 2, 1);
+        relief("grid 5 by 4 day 2;plane p node 2 tilt 2 turn 6;craft a in p phase 5 reach 0;"
+            + "craft b in p phase 2 reach 0;craft c in p phase 2 reach 3;", 2, 1);
         // b and c bring no gap and all cells at all ticks.
-        relief("grid 6 by 5 day 2;plane p node 1 tilt 0 turn 8;craft a in p phase 6 reach 1;craft b in p phase 0 reach 3;"
-            + "craft c in p phase 3 reach 0;", 0, 1);
+        relief("grid 6 by 5 day 2;plane p node 1 tilt 0 turn 8;craft a in p phase 6 reach 1;"
+            + "craft b in p phase 0 reach 3;craft c in p phase 3 reach 0;", 0, 1);
         relief(RING + "craft c in p phase 1 reach 1;", 0, 1);
     }
 
@@ -326,7 +373,8 @@ final class TermThreeTests extends Checks {
         siteHas(4, 8, 0);
         // Two days a cycle: above columns 0 7 6 5 4 3 2 1, so above (4, 1) at tick 4, which is 0 of its day.
         OrbitDesk x = desk("grid 8 by 3 day 4;plane p node 0 tilt 0 turn 8;craft a in p phase 0 reach 0;"
-            + "site s at 4 1 from 0 to 1;site t at 3 1 from 1 to 2;site u at 3 1 from 2 to 4;site v at 1 1 from 3 to 4;");
+            + "site s at 4 1 from 0 to 1;site t at 3 1 from 1 to 2;site u at 3 1 from 2 to 4;"
+            + "site v at 1 1 from 3 to 4;");
         int[] passes = {1, 1, 0, 1};
         for (int site = 0; site < 4; site++) {
             due("site " + site, x.site(site, 4), passes[site]);
@@ -368,6 +416,10 @@ final class TermThreeTests extends Checks {
         suspects(noted(RING, 3, 1, 2, 0), 1);
         suspects(noted(RING, 1, 2, 2, 0), 0, 1, 2);
         suspects(noted(RING, 1, 2, 2, 1));
+        // (1, 0) and (1, 2) are not seen at 0, (1, 1) is by both.
+        suspects(noted(RING, 0, 1, 0, 0, 0, 1, 2, 1));
+        suspects(noted(RING, 0, 1, 0, 0, 0, 1, 1, 1, 0, 1, 2, 0), 0, 1, 2);
+        suspects(noted(RING, 0, 1, 1, 1, 1, 1, 1, 1, 3, 3, 1, 0));
     }
 
     @Says("SUSPECTS are those CRAFT that are UP of which one, being lost, makes all so,")
@@ -403,6 +455,19 @@ final class TermThreeTests extends Checks {
         suspects(x, 0, 2);
         due("tells(0) of two", x.tells(0), 1);
         due("tells(1) of two", x.tells(1), 1);
+        // b sees nothing that a does not: its loss looks as none does, a's does not.
+        OrbitDesk y = desk("grid 8 by 3 day 8;plane p node 0 tilt 0 turn 8;craft a in p phase 0 reach 1;"
+            + "craft b in p phase 0 reach 0;");
+        due("tells(1) of three", y.tells(1), 2);
+        // Above row 0 at tick 0, and nowhere else then.
+        OrbitDesk z = desk("grid 8 by 5 day 8;plane p node 0 tilt 2 turn 8;craft a in p phase 6 reach 0;");
+        due("by row 0", z.tells(0), 0);
+        due("by row 0", z.tells(1), 1);
+        StringBuilder eight = new StringBuilder("grid 4 by 3 day 4;plane p node 0 tilt 0 turn 2;");
+        for (int i = 0; i < 8; i++) {
+            eight.append("craft ").append((char) ('a' + i)).append(" in p phase 0 reach 1;");
+        }
+        due("no loss of eight shows", desk(eight.toString()).tells(1), 9);
     }
 
     @Says("of like ones the first. AN IMAGE")

@@ -1,9 +1,9 @@
 /** Promises 1 to 14, sentence by sentence: the tape, the desk, what was told, where craft are and what they see. */
 final class ToldEdges extends Checks {
     /** Two planes, three craft (one in q), two sites. */
-    private static final String TRIO = "grid 8 by 5 day 8;plane p node 7 tilt 2 turn 8;plane qrstuv node 3 tilt 0 turn 4;"
-        + "craft a in p phase 0 reach 1;craft bz in p phase 4 reach 0;craft c in qrstuv phase 1 reach 12;"
-        + "site s at 2 4 from 0 to 8;site t at 7 2 from 3 to 6;";
+    private static final String TRIO = "grid 8 by 5 day 8;plane p node 7 tilt 2 turn 8;"
+        + "plane qrstuv node 3 tilt 0 turn 4;craft a in p phase 0 reach 1;craft bz in p phase 4 reach 0;"
+        + "craft c in qrstuv phase 1 reach 12;site s at 2 4 from 0 to 8;site t at 7 2 from 3 to 6;";
     private static final int[] TICKS_OUT = {-1, 10000, MIN, MAX, 10001, -9999};
 
     private ToldEdges() {
@@ -145,9 +145,9 @@ final class ToldEdges extends Checks {
 
     @Says("NONE, refused (1), with a FAULT")
     static void promise4_aFaultIsRefused() {
-        String[] texts = {"grid", "grid 3", RING + "craft a", RING.replace("in p", "in q"), "grid 4 by 3 day 80;plane p "
-            + "node 0 tilt 0 turn 49;", ALONE + "plane q node 0 tilt 0 turn 2;plane r node 0 tilt 0 turn 2;"
-            + "plane s node 0 tilt 0 turn 2;plane t"};
+        String[] texts = {"grid", "grid 3", RING + "craft a", RING.replace("in p", "in q"),
+            "grid 4 by 3 day 80;plane p node 0 tilt 0 turn 49;",
+            ALONE + "plane q node 0 tilt 0 turn 2;plane r node 0 tilt 0 turn 2;plane s node 0 tilt 0 turn 2;plane t"};
         int[] kinds = {1, 2, 3, 3, 6, 5};
         for (int i = 0; i < texts.length; i++) {
             String text = texts[i];
@@ -208,6 +208,27 @@ final class ToldEdges extends Checks {
         due("all is unseen", x.worst(0), 7);
     }
 
+    @Says("Without one all is as told,")
+    static void promise4_nothingOfTheFormerDeskStays() {
+        String[] texts = {TRIO, RING, "grid 9 by 6 day 4;plane p node 8 tilt 3 turn 12;craft a in p phase 1 reach 1;"
+            + "site u at 0 0 from 0 to 4;", BOW, "grid 5 by 3 day 2;", SITES};
+        for (String former : texts) {
+            for (String text : texts) {
+                OrbitDesk x = desk(former);
+                sights(x);
+                tried(x, 0);
+                x.lose(0);
+                feed(x, text + "craft");
+                x.desk();
+                feed(x, text);
+                x.desk();
+                OrbitDesk y = desk(text);
+                due("state of " + text + " behind " + former, state(x).equals(state(y)), true);
+                due("sights of " + text + " behind " + former, sights(x).equals(sights(y)), true);
+            }
+        }
+    }
+
     @Says("the seed stays.")
     static void promise4_theSeedStays() {
         OrbitDesk x = busy(BOW);
@@ -249,6 +270,9 @@ final class ToldEdges extends Checks {
         due("at 16", x.fault(1), 16);
         x.desk();
         due("at the length, 0", x.fault(1), 0);
+        feed(x, RING);
+        x.desk();
+        due("without, behind a fault", x.fault(1), NONE);
     }
 
     @Says("NONE for another what.")

@@ -168,6 +168,10 @@ final class TriedEdges extends Checks {
         due("the least of the best", best, 1);
         due("bestNode(0, 0)", x.bestNode(0, 0), 1);
         due("nothing of it stays", x.plane(0, 0), 3);
+        OrbitDesk y = desk(TWINS + "craft c in q phase 1 reach 2;");
+        y.node(0, 2);
+        y.lose(2);
+        due("without what the lost one would see, nor what a sees now", y.bestNode(0, 1), Float.floatToIntBits(most));
         due("all are alike", without(TWINS, 0).bestNode(0, 0), 0);
         due("of a plane without craft", desk(RING + "plane q node 3 tilt 0 turn 2;").bestNode(1, 0), 0);
     }
@@ -202,6 +206,7 @@ final class TriedEdges extends Checks {
     static void promise33_fewest() {
         OrbitDesk x = desk(RING + "craft c in p phase 0 reach 2;");
         due("0: c sees all cells", x.fewest(0, 0), 4);
+        due("1: c alone, though a and b are lesser bits", x.fewest(1, 0), 4);
         due("3: a alone", x.fewest(3, 0), 1);
         due("4: none at all", x.fewest(4, 0), 0);
         due("MAX: none at all", x.fewest(MAX, 0), 0);
@@ -211,6 +216,7 @@ final class TriedEdges extends Checks {
         due("3: b, as a is lost", x.fewest(3, 0), 2);
         x.lose(1);
         due("4: none is up", x.fewest(4, 0), 0);
+        due("1: all craft there are", desk(RING).fewest(1, 0), 3);
     }
 
     @Says("of like ones the least bits), how many (1).")
@@ -364,7 +370,8 @@ final class TriedEdges extends Checks {
     @Says("Of all two CRAFT that are UP, the one of less number first, those by whose loss together the WORST gap is "
         + "greatest,")
     static void promise37_couple() {
-        OrbitDesk x = desk(RING + "craft c in p phase 1 reach 1;craft d in p phase 0 reach 1;craft e in p phase 0 reach 1;");
+        OrbitDesk x = desk(RING + "craft c in p phase 1 reach 1;craft d in p phase 0 reach 1;"
+            + "craft e in p phase 0 reach 1;");
         // Three are on a's side, so that only without b and c one side is left.
         due("couple(0)", x.couple(0), 1);
         due("couple(1)", x.couple(1), 2);
@@ -387,6 +394,9 @@ final class TriedEdges extends Checks {
         due("all leave cells never seen", y.couple(0), 0);
         due("all leave cells never seen", y.couple(1), 1);
         due("all leave cells never seen", y.couple(2), 8);
+        y.lose(0);
+        due("not a, which is lost", y.couple(0), 1);
+        due("not a, which is lost", y.couple(1), 2);
     }
 
     @Says("NONE when fewer than two are UP,")
@@ -420,8 +430,8 @@ final class TriedEdges extends Checks {
         due("a lost one carries nothing", x.carry(0, 0, 1), NONE);
     }
 
-    @Says("each TICK first each CRAFT that SEES a SITE that has it takes it, then each SITE that is SEEN by a CRAFT that "
-        + "has it has it;")
+    @Says("each TICK first each CRAFT that SEES a SITE that has it takes it, then each SITE that is SEEN by a CRAFT "
+        + "that has it has it;")
     static void promise38_firstCraftThenSites() {
         OrbitDesk x = desk(CHAIN);
         due("u to v, both below a", x.carry(0, 0, 1), 1);
