@@ -30,6 +30,15 @@ class Checks {
     static final String SITES = "grid 8 by 5 day 8;plane p node 0 tilt 2 turn 8;craft a in p phase 0 reach 1;"
         + "site x at 0 2 from 0 to 8;site y at 0 0 from 4 to 6;site z at 4 4 from 0 to 8;";
 
+    /** All there may be: columns, rows, ticks of the cycle, planes, craft, sites. */
+    static final String FULL = "grid 24 by 12 day 80;plane pa node 0 tilt 6 turn 80;plane pb node 23 tilt 5 turn 48;"
+        + "plane pc node 9 tilt 6 turn 60;plane pd node 20 tilt 0 turn 80;craft ca in pa phase 0 reach 0;"
+        + "craft cb in pa phase 40 reach 3;craft cc in pb phase 47 reach 4;craft cd in pb phase 30 reach 2;"
+        + "craft ce in pc phase 7 reach 5;craft cf in pc phase 59 reach 3;craft cg in pd phase 79 reach 6;"
+        + "craft ch in pd phase 60 reach 12;site sa at 0 0 from 0 to 80;site sb at 12 6 from 10 to 40;"
+        + "site sc at 23 11 from 0 to 60;site sd at 5 5 from 3 to 70;site se at 7 2 from 0 to 79;"
+        + "site sf at 18 9 from 79 to 80;";
+
     static void due(String what, long got, long want) {
         checks++;
         if (got != want) {
@@ -169,7 +178,7 @@ class Checks {
             case 2: return x.critical(1 + what);
             case 3: return x.relief(2, what);
             case 4: return x.bestNode(0, what);
-            case 5: return x.fewest(2, what);
+            case 5: return x.fewest(5, what);
             default: return x.couple(1 + what);
         }
     }

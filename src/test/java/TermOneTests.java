@@ -474,6 +474,50 @@ final class TermOneTests extends Checks {
         faultBehind(6, "grid 8 by 5 day 11;plane p node 0 tilt 2 turn 22;plane q node 0 tilt 0 turn 24;^");
     }
 
+    @Says("a CYCLE of more than 240 TICKS")
+    static void termI_aCycleOf240TicksIsWhole() {
+        OrbitDesk x = desk(FULL);
+        due("cycle", x.has(7), 240);
+        due("240 is 0 again", x.cover(240), x.cover(0));
+        // The last one, of reach 12, sees all of row 11.
+        x.lose(7);
+        int seen = 0;
+        for (int t = 0; t < 240; t++) {
+            seen += x.seen(t, 11, 11) > 0 ? 1 : 0;
+        }
+        int missed = 0;
+        int gaps = x.gaps(11, 11);
+        for (int k = 0; k < gaps; k++) {
+            missed += x.gap(11, 11, k, 1);
+        }
+        due("some are missed", missed > 0, true);
+        due("seen and missed", seen + missed, 240);
+        OrbitDesk y = desk(FULL);
+        for (int craft = 0; craft < 8; craft++) {
+            y.lose(craft);
+        }
+        due("a gap of all", y.worst(0), 240);
+        due("a gap of all", y.gap(23, 11, 0, 1), 240);
+        due("none is ever seen", y.never(), 288);
+    }
+
+    @Says({"4 .. 24 COLUMNS, 3 .. 12 ROWS,", "4 PLANES);", "8 CRAFT);", "6 SITES)."})
+    static void termI_theFullestDeskAnswersAll() {
+        OrbitDesk x = desk(FULL);
+        String stood = state(x);
+        String seen = sights(x);
+        for (int which = 0; which < 14; which++) {
+            tried(x, which);
+        }
+        x.tells(0);
+        for (int site = 0; site < 6; site++) {
+            due("passes of site " + site, x.site(site, 4) >= 0, true);
+            due("ticks of site " + site, x.site(site, 5) >= x.site(site, 4), true);
+        }
+        due("state", state(x).equals(stood), true);
+        due("sights", sights(x).equals(seen), true);
+    }
+
     private static String planes(int count) {
         StringBuilder out = new StringBuilder();
         for (int i = 0; i < count; i++) {

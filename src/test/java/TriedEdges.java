@@ -539,6 +539,16 @@ final class TriedEdges extends Checks {
         due("v and w to one another", x.source(0, 1, 1), 2);
     }
 
+    @Says("The SITE from which word comes to most SITES")
+    static void promise40_sitesOfAFormerDeskAreNone() {
+        OrbitDesk x = desk(CHAIN);
+        feed(x, CHAIN.substring(0, CHAIN.indexOf("site v")));
+        due("a desk with u alone", x.desk(), 5);
+        due("source(0, 9, 0)", x.source(0, 9, 0), 0);
+        due("source(0, 9, 1)", x.source(0, 9, 1), 1);
+        due("holders(0, 0, 9)", x.holders(0, 0, 9), 1);
+    }
+
     @Says("NONE without SITES,")
     static void promise40_withoutSites() {
         due("without sites", desk(RING).source(0, 0, 0), NONE);
