@@ -492,6 +492,9 @@ final class TermOneTests extends Checks {
         }
         due("some are missed", missed > 0, true);
         due("seen and missed", seen + missed, 240);
+        due("no gap behind the last", x.gap(11, 11, gaps, 0), NONE);
+        due("no pass behind the last", x.pass(11, 11, NONE, x.passes(11, 11, NONE), 0), NONE);
+        due("at no more ticks by two than by one", x.depth(11, 11, 2) <= seen, true);
         OrbitDesk y = desk(FULL);
         for (int craft = 0; craft < 8; craft++) {
             y.lose(craft);
