@@ -39,6 +39,15 @@ class Checks {
         + "site sc at 23 11 from 0 to 60;site sd at 5 5 from 3 to 70;site se at 7 2 from 0 to 79;"
         + "site sf at 18 9 from 79 to 80;";
 
+    /** A desk's head, and eight craft alike in its plane p. */
+    static String eight(String head, String phaseAndReach) {
+        StringBuilder out = new StringBuilder(head);
+        for (int i = 0; i < 8; i++) {
+            out.append("craft ").append((char) ('a' + i)).append(" in p ").append(phaseAndReach).append(';');
+        }
+        return out.toString();
+    }
+
     static void due(String what, long got, long want) {
         checks++;
         if (got != want) {

@@ -27,6 +27,10 @@ final class CycleEdges extends Checks {
         due("by a lost one", y.passes(4, 2, 0), 0);
         due("by those that are up", y.passes(4, 2, NONE), 2);
         due("without craft", desk("grid 4 by 3 day 2;").passes(0, 0, NONE), 0);
+        OrbitDesk z = desk(eight("grid 8 by 5 day 8;plane p node 0 tilt 2 turn 8;", "phase 0 reach 1"));
+        due("by eight", z.passes(0, 2, NONE), 16);
+        due("by the eighth", z.passes(0, 2, 7), 2);
+        due("never seen by eight", z.passes(4, 2, NONE), 0);
     }
 
     @Says("NONE when there is none such.")

@@ -391,6 +391,11 @@ final class TermThreeTests extends Checks {
             + "site s at 0 2 from 0 to 8;site t at 0 2 from 0 to 7;");
         due("all ticks of the day", x.site(0, 5), 8);
         due("all but one", x.site(1, 4), 0);
+        // Each of eight craft has the pass at 3 4 5; the gaps at 2 and at 6 are none.
+        OrbitDesk y = desk(eight("grid 8 by 5 day 8;plane p node 0 tilt 2 turn 8;", "phase 0 reach 1")
+            + "site s at 0 2 from 0 to 8;");
+        due("passes of eight", y.site(0, 4), 8);
+        due("ticks of eight", y.site(0, 5), 24);
     }
 
     private static OrbitDesk noted(String text, int... rows) {
@@ -462,11 +467,6 @@ final class TermThreeTests extends Checks {
         OrbitDesk z = desk("grid 8 by 5 day 8;plane p node 0 tilt 2 turn 8;craft a in p phase 6 reach 0;");
         due("by row 0", z.tells(0), 0);
         due("by row 0", z.tells(1), 1);
-        StringBuilder eight = new StringBuilder("grid 4 by 3 day 4;plane p node 0 tilt 0 turn 2;");
-        for (int i = 0; i < 8; i++) {
-            eight.append("craft ").append((char) ('a' + i)).append(" in p phase 0 reach 1;");
-        }
-        due("no loss of eight shows", desk(eight.toString()).tells(1), 9);
     }
 
     @Says("of like ones the first. AN IMAGE")
@@ -478,6 +478,19 @@ final class TermThreeTests extends Checks {
         OrbitDesk y = noted(RING, 0, 0, 0, 1, 0, 2, 0, 1);
         due("tells(0) of one", y.tells(0), 0);
         due("tells(1) of one", y.tells(1), 1);
+        // Eight above one cell at each tick: whoever is lost, it does not show.
+        OrbitDesk z = desk(eight("grid 8 by 3 day 8;plane p node 0 tilt 0 turn 4;", "phase 0 reach 0"));
+        due("no loss of eight shows", z.tells(0), 0);
+        due("no loss of eight shows", z.tells(1), 9);
+        OrbitDesk w = desk(eight("grid 8 by 3 day 8;plane q node 0 tilt 0 turn 8;plane p node 0 tilt 0 turn 4;",
+            "phase 0 reach 0").replace("h in p", "h in q"));
+        due("h's loss shows at 1", w.tells(0), 1);
+        due("h's loss shows at 1", w.tells(1), 8);
+        w.reach(0, 12);
+        due("but not below one that sees all", w.tells(1), 8);
+        w.reach(1, 12);
+        due("nor any below two that see all", w.tells(0), 0);
+        due("nor any below two that see all", w.tells(1), 9);
     }
 
     @Says("AN IMAGE: of each PLANE its node, of each CRAFT 1, if it is UP, else 0, its phase, its reach;")

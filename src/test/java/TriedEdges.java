@@ -65,6 +65,8 @@ final class TriedEdges extends Checks {
         OrbitDesk x = without(TWINS, 0);
         due("all of p lost", x.even(0, 1), NONE);
         due("q has one", x.even(1, 1), 3);
+        due("all of p lost, behind another trial", x.even(0, 1), NONE);
+        due("all of p lost, behind another trial", x.even(0, 0), NONE);
         due("a plane without craft", desk(RING + "plane q node 0 tilt 0 turn 2;").even(1, 0), NONE);
     }
 
@@ -135,6 +137,10 @@ final class TriedEdges extends Checks {
         due("b is in q", without(TWINS, 0).relief(0, 0), NONE);
         due("b is in q", without(TWINS, 0).relief(0, 1), NONE);
         due("all lost", without(RING, 0, 1).relief(1, 0), NONE);
+        OrbitDesk x = without(TWINS, 0);
+        due("another trial", x.even(1, 1), 3);
+        due("behind another trial", x.relief(0, 1), NONE);
+        due("behind another trial", x.relief(0, 0), NONE);
     }
 
     @Says("there is none such,")
