@@ -487,10 +487,9 @@ final class TermThreeTests extends Checks {
         due("h's loss shows at 1", w.tells(0), 1);
         due("h's loss shows at 1", w.tells(1), 8);
         w.reach(0, 12);
-        due("but not below one that sees all", w.tells(1), 8);
         w.reach(1, 12);
-        due("nor any below two that see all", w.tells(0), 0);
-        due("nor any below two that see all", w.tells(1), 9);
+        due("no loss shows below two that see all", w.tells(0), 0);
+        due("no loss shows below two that see all", w.tells(1), 9);
     }
 
     @Says("AN IMAGE: of each PLANE its node, of each CRAFT 1, if it is UP, else 0, its phase, its reach;")
