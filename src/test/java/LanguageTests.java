@@ -16,20 +16,6 @@ import java.util.regex.Pattern;
 public final class LanguageTests {
     private static int wrong = 0;
 
-    private static final String[] FACE = {"int feed(int,int,int,int,int)", "boolean end(int)", "int desk()",
-        "int fault(int)", "int has(int)", "int letter(int,int,int)", "int plane(int,int)", "int craft(int,int)",
-        "int site(int,int)", "int spot(int,int,int)", "int sees(int,int,int,int)", "int seen(int,int,int)",
-        "int width(int)", "int passes(int,int,int)", "int pass(int,int,int,int,int)", "int gaps(int,int)",
-        "int gap(int,int,int,int)", "int greatest(int,int)", "long mean(int,int)", "int covered(int)",
-        "int cover(int)", "int score()", "int worst(int)", "int never()", "int soon(int)", "int next(int,int,int)",
-        "int best(int,int)", "int even(int,int)", "int critical(int)", "int relief(int,int)", "int bestNode(int,int)",
-        "int fewest(int,int)", "int meets(int,int)", "int extreme(boolean,int)", "int depth(int,int,int)",
-        "int couple(int)", "int carry(int,int,int)", "int holders(int,int,int)", "int source(int,int,int)",
-        "int note()", "int suspect(int)", "int tells(int)", "boolean lose(int)", "boolean find(int)",
-        "boolean phase(int,int)", "boolean reach(int,int)", "boolean node(int,int)", "int spread(int,int)",
-        "int chance(int)", "boolean undo()", "boolean seed(int)", "int image()", "int octet(int)", "boolean on()",
-        "int status(int)"};
-
     private static void check(boolean good, String fault) {
         if (!good) {
             wrong++;
@@ -37,11 +23,25 @@ public final class LanguageTests {
         }
     }
 
-    private static void face() {
+    /** The methods that the document's public face has, without the names of their parameters. */
+    private static Set<String> documented(String doc) {
+        int from = doc.indexOf("public final class OrbitDesk {");
+        String face = doc.substring(from, doc.indexOf("\n}", from));
+        Set<String> out = new TreeSet<>();
+        Matcher m = Pattern.compile("public (\\w+) (\\w+)\\(([^)]*)\\);").matcher(face);
+        while (m.find()) {
+            out.add(m.group(1) + " " + m.group(2) + "(" + m.group(3).replaceAll(" \\w+(, )?", "$1").replace(" ", "") + ")");
+        }
+        check(out.size() == 55, "the document has " + out.size() + " methods");
+        check(face.contains("public static final int NONE = -1;") && OrbitDesk.NONE == -1, "rule 1: NONE is -1");
+        check(face.split("public ").length == out.size() + 4, "the document's face has more than was read");
+        return out;
+    }
+
+    private static void face(Set<String> due) {
         check(Modifier.isPublic(OrbitDesk.class.getModifiers()) && Modifier.isFinal(OrbitDesk.class.getModifiers()),
             "rule 1: the class is public and final");
         Set<String> names = new HashSet<>();
-        Set<String> due = new TreeSet<>(List.of(FACE));
         Set<String> is = new TreeSet<>();
         for (Method m : OrbitDesk.class.getDeclaredMethods()) {
             if (Modifier.isPublic(m.getModifiers())) {
@@ -57,7 +57,7 @@ public final class LanguageTests {
         }
         check(is.equals(due), "rule 1: the face is " + is);
         for (Field f : OrbitDesk.class.getDeclaredFields()) {
-            boolean constant = f.getName().equals("NONE") && Modifier.isPublic(f.getModifiers());
+            boolean constant = f.getName().equals("NONE") && f.getType() == int.class && isConstant(f.getModifiers());
             check(constant || Modifier.isPrivate(f.getModifiers()), "rule 1: " + f);
         }
         Constructor<?>[] constructors = OrbitDesk.class.getDeclaredConstructors();
@@ -70,6 +70,10 @@ public final class LanguageTests {
             shape(inside, names);
         }
         check(OrbitDesk.class.getDeclaredClasses().length + 1 <= 12, "rule 11: twelve classes");
+    }
+
+    private static boolean isConstant(int modifiers) {
+        return Modifier.isPublic(modifiers) && Modifier.isStatic(modifiers) && Modifier.isFinal(modifiers);
     }
 
     private static void shape(Class<?> type, Set<String> names) {
@@ -137,7 +141,7 @@ public final class LanguageTests {
     }
 
     public static void main(String[] args) throws Exception {
-        face();
+        face(documented(Files.readString(Path.of(System.getProperty("doc")))));
         text(Files.readString(Path.of(System.getProperty("class"))));
         System.out.println("LanguageTests: " + wrong + " wrong");
         if (wrong != 0) {

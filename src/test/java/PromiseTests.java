@@ -1,5 +1,33 @@
 /** Answers worked out by hand from the document, promise by promise: ordinary inputs, edges, wrong inputs. */
 public final class PromiseTests extends Checks {
+    /** 512 calls after an object was made: the last ones answer as early ones do, and all refusals were counted. */
+    private static void whatItIs() {
+        OrbitDesk x = desk(RING);
+        int calls = (RING.length() + 19) / 20 + 2;
+        int even = x.even(0, 0);
+        int alone = x.critical(1);
+        calls += 2;
+        int rounds = 0;
+        for (; calls + 6 <= 510; calls += 6) {
+            due("lose(1)", x.lose(1), true);
+            due("worst(0) without it", x.worst(0), alone);
+            due("even(0, 0) with one craft", x.even(0, 0), 0);
+            due("undo()", x.undo(), true);
+            due("undo() once more", x.undo(), false);
+            due("even(0, 0) with both", x.even(0, 0), even);
+            rounds++;
+        }
+        for (; calls < 511; calls++) {
+            due("seed(-1)", x.seed(-1), false);
+        }
+        due("status(4), the 512th call", x.status(4), rounds);
+        OrbitDesk y = new OrbitDesk();
+        for (int i = 0; i < 511; i++) {
+            due("undo()", y.undo(), false);
+        }
+        due("status(4), the 512th call", y.status(4), 511);
+    }
+
     private static void promise1() {
         OrbitDesk x = new OrbitDesk();
         for (int what = 0; what <= 10; what++) {
@@ -1232,6 +1260,8 @@ public final class PromiseTests extends Checks {
     }
 
     public static void main(String[] args) throws Exception {
+        test = "what it is";
+        whatItIs();
         for (int promise = 1; promise <= 56; promise++) {
             test = "promise " + promise;
             PromiseTests.class.getDeclaredMethod("promise" + promise).invoke(null);
